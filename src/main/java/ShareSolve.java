@@ -25,6 +25,7 @@ public final class ShareSolve {
     private final Line line;
     private final Flow flow;
     private final Solved solved;
+    /** It stood when it was solved, and nothing but spans was told since. */
     private boolean untouched;
 
     public ShareSolve(int kinds) {
@@ -334,7 +335,9 @@ public final class ShareSolve {
 
         /** The least machine from which some kind never gets away, or NONE when it stands. */
         int firstStuck() {
-            Arrays.fill(getsAway, false);
+            for (int row = 0; row < ROWS; row++) {
+                getsAway[row] = false;
+            }
             for (int round = 0; round < ROWS; round++) {
                 spreadGetsAway();
             }
@@ -434,10 +437,11 @@ public final class ShareSolve {
             below.become(1);
             for (int pivot = 0; pivot < size; pivot++) {
                 for (int row = 0; row < size; row++) {
+                    if (row == pivot) {
+                        continue;
+                    }
                     for (int column = pivot + 1; column < size + rightSides; column++) {
-                        if (row != pivot) {
-                            eliminateCell(row, column, pivot);
-                        }
+                        eliminateCell(row, column, pivot);
                     }
                 }
                 below.become(cell(pivot, pivot));
@@ -562,19 +566,20 @@ public final class ShareSolve {
 
         private void eliminateCell(int row, int column, int pivot) {
             Whole cell = cell(row, column);
+            Whole toRow = cell(row, pivot);
+            Whole fromColumn = cell(pivot, column);
+            if (cell.isZero() && (toRow.isZero() || fromColumn.isZero())) {
+                return;
+            }
             first.becomeProduct(cell(pivot, pivot), cell);
-            second.becomeProduct(cell(row, pivot), cell(pivot, column));
+            second.becomeProduct(toRow, fromColumn);
             if (row == column) {
                 first.subtract(second);
             } else {
                 first.addTimes(second, 1);
             }
-            if (first.isZero()) {
-                cell.become(0);
-            } else {
-                division.divide(first, below);
-                cell.become(division.quotient);
-            }
+            division.divide(first, below);
+            cell.become(division.quotient);
         }
 
         private void putGram(int to, int kind, int column) {
@@ -753,9 +758,10 @@ public final class ShareSolve {
         static final int SPARE_BITS = 32 - BITS;
         static final long MASK = (1L << BITS) - 1;
         /**
-         * Enough for all: a scale is at most 12 * 6930, so 9 of them give less than 2^148; a
-         * solution has 27 feeds more at most, so is less than 2^173; the product of both, moved
-         * up by less than a limb for a division, stays below 2^351, the greatest number made.
+         * Enough for all: a scale is at most 12 * 6930, so what 9 of them give is below 2^148;
+         * a solution has at most 27 feeds as a factor more, so is below 2^173. Their product is
+         * below 2^321, the square of the former, times GROUP, below 2^326; moved up by less than
+         * a limb for a division both stay below 2^356, and a limb is left above them.
          */
         static final int LIMBS = 13;
 
@@ -831,9 +837,9 @@ public final class ShareSolve {
 
         /** The other is at most this. */
         void subtract(Whole other) {
-            long owed = 0;
-            for (int at = 0; at < LIMBS; at++) {
-                long left = limbs[at] - other.limbs[at] - owed;
+            int owed = 0;
+            for (int at = 0; at < used; at++) {
+                int left = limbs[at] - other.limbs[at] - owed;
                 limbs[at] = (int) (left & MASK);
                 owed = left < 0 ? 1 : 0;
             }
@@ -872,18 +878,19 @@ public final class ShareSolve {
         /** By less than a limb. */
         void shiftUp(int bits) {
             long carry = 0;
-            for (int at = 0; at < LIMBS; at++) {
+            int end = Math.min(used + 1, LIMBS);
+            for (int at = 0; at < end; at++) {
                 long moved = ((long) limbs[at] << bits) + carry;
                 limbs[at] = (int) (moved & MASK);
                 carry = moved >>> BITS;
             }
-            dropZeros(used + 1);
+            dropZeros(end);
         }
 
         /** By less than a limb. */
         void shiftDown(int bits) {
             long carry = 0;
-            for (int at = LIMBS - 1; at >= 0; at--) {
+            for (int at = used - 1; at >= 0; at--) {
                 long moved = (carry << BITS) + limbs[at];
                 limbs[at] = (int) (moved >>> bits);
                 carry = moved & ((1L << bits) - 1);
@@ -893,7 +900,7 @@ public final class ShareSolve {
 
         /** Looks for the top limb, below a place. */
         private void dropZeros(int from) {
-            int end = Math.min(from, LIMBS);
+            int end = from < LIMBS ? from : LIMBS;
             while (end > 0 && limbs[end - 1] == 0) {
                 end--;
             }

@@ -18,7 +18,7 @@ public final class ModelTest {
         for (int seed = 1; seed <= RUNS && wrong < 20; seed++) {
             new Run(seed).go();
         }
-        for (int seed = 1; seed <= 60 && wrong < 20; seed++) {
+        for (int seed = 1; seed <= 90 && wrong < 20; seed++) {
             new Run(100000 + seed, 3).goSlowly();
         }
         if (beyondLong == 0) {
@@ -92,10 +92,12 @@ public final class ModelTest {
 
         /** Lines from which little gets away, with the awkwardest fractions. */
         void goSlowly() {
-            if (seed % 2 == 0) {
+            if (seed % 3 == 0) {
                 setUpSlow();
-            } else {
+            } else if (seed % 3 == 1) {
                 setUpNarrow();
+            } else {
+                setUpGreat();
             }
             solve();
             askAll();
@@ -172,6 +174,26 @@ public final class ModelTest {
             share(2, 1, 1, 1, 11);
             if (random.nextInt(2) == 0) {
                 share(random.nextInt(3), 2, 0, 6, 7);
+            }
+        }
+
+        /** Denominators that have least in common, so that the numbers inside grow greatest. */
+        void setUpGreat() {
+            int[][] belows = {{11, 7}, {9, 10}, {11, 7}};
+            for (int m = 0; m < 3; m++) {
+                machine(3);
+                port();
+            }
+            for (int m = 0; m < 3; m++) {
+                joinOut(m, 0, (m + 1) % 3);
+                joinOut(m, 1, random.nextInt(3));
+                joinOut(m, 2, -2 - random.nextInt(3));
+                for (int k = 0; k < 3; k++) {
+                    share(m, k, 0, 1, belows[k][0]);
+                    share(m, k, 1, 1, belows[k][1]);
+                    crush(m, k, k == 1 ? 0 : 1, k == 1 ? 5 : 7, 12);
+                    feed(m, k, 1000000 - random.nextInt(2));
+                }
             }
         }
 
