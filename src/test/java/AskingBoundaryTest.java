@@ -71,7 +71,8 @@ public final class AskingBoundaryTest extends Sentences {
         }
     }
 
-    @Sentence(promise = 8, says = "else 1 and the least machine from which some kind comes to no port and is not gone")
+    @Sentence(promise = 8,
+            says = "else 1 and the least machine from which some kind comes to no port and is not gone")
     private static void leastMachine() {
         for (int stuck = 0; stuck < 8; stuck++) {
             for (int kind = 0; kind < 2; kind++) {
@@ -88,7 +89,8 @@ public final class AskingBoundaryTest extends Sentences {
         }
     }
 
-    @Sentence(promise = 8, says = "else 1 and the least machine from which some kind comes to no port and is not gone")
+    @Sentence(promise = 8,
+            says = "else 1 and the least machine from which some kind comes to no port and is not gone")
     private static void leastMachineByAnother() {
         ShareSolve x = machinesAlone(1, 3);
         x.share(2, 0, 0, 1, 1);
@@ -109,7 +111,8 @@ public final class AskingBoundaryTest extends Sentences {
         due("and for machine 2 that to machine 1", 0, x.solve());
     }
 
-    @Sentence(promise = 8, says = "else 1 and the least machine from which some kind comes to no port and is not gone")
+    @Sentence(promise = 8,
+            says = "else 1 and the least machine from which some kind comes to no port and is not gone")
     private static void someKindThatWasNotFed() {
         ShareSolve x = machinesAlone(3, 2);
         x.feed(0, 0, 5);
@@ -124,6 +127,25 @@ public final class AskingBoundaryTest extends Sentences {
         due("it becomes kind 2, of which all comes back", 1, x.solve());
         x.crush(0, 2, 0, 1, 12);
         due("of which a twelfth becomes kind 0", 0, x.solve());
+    }
+
+    @Sentence(promise = 8,
+            says = "else 1 and the least machine from which some kind comes to no port and is not gone")
+    private static void someKindThatIsCrushed() {
+        ShareSolve x = machinesAlone(2, 2);
+        x.share(1, 1, 0, 1, 1);
+        x.joinOut(0, 0, 1);
+        x.share(0, 1, 0, 1, 1);
+        x.crush(0, 1, 0, 1, 12);
+        due("from machine 1 none of kind 1 gets away", 2, x.solve());
+        x.crush(0, 0, 1, 11, 12);
+        due("a twelfth of kind 0 gets away from machine 0 as it is", 2, x.solve());
+        x.crush(0, 0, 1, 12, 12);
+        due("none does: all of it becomes 1 and comes to machine 1", 1, x.solve());
+        x.share(0, 1, 0, 11, 12);
+        due("a twelfth of what became 1 does", 2, x.solve());
+        x.share(1, 1, 0, 11, 12);
+        due("and from machine 1", 0, x.solve());
     }
 
     @Sentence(promise = 8, says = "(nothing is known then)")

@@ -147,7 +147,8 @@ public final class ChangingBoundaryTest extends Sentences {
         due("all comes", 60, y.out(0, 0, 0));
     }
 
-    @Sentence(promise = 16, says = "with t / 12 as the share of a machine, a kind and its out 0 (which becomes it)")
+    @Sentence(promise = 16,
+            says = "with t / 12 as the share of a machine, a kind and its out 0 (which becomes it)")
     private static void theShareBecomesIt() {
         ShareSolve x = fed(3, 1200);
         x.share(0, 0, 0, 1, 7);
@@ -163,7 +164,8 @@ public final class ChangingBoundaryTest extends Sentences {
         yes("all is left", x.share(0, 0, 1, 1, 1));
     }
 
-    @Sentence(promise = 16, says = "with t / 12 as the share of a machine, a kind and its out 0 (which becomes it)")
+    @Sentence(promise = 16,
+            says = "with t / 12 as the share of a machine, a kind and its out 0 (which becomes it)")
     private static void theShareOfThatKindAlone() {
         ShareSolve x = new ShareSolve(2);
         x.machine(2);

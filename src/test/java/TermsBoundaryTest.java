@@ -340,7 +340,8 @@ public final class TermsBoundaryTest extends Sentences {
         due("what comes back comes in, too", 621, x.load(0, 0));
     }
 
-    @Sentence(promise = 0, says = "some of it, by shares above 0 (crushed or not), comes at last to a port or is gone")
+    @Sentence(promise = 0,
+            says = "some of it, by shares above 0 (crushed or not), comes at last to a port or is gone")
     private static void itStands() {
         for (int to : new int[] {-1, -2}) {
             ShareSolve x = new ShareSolve(2);
