@@ -373,19 +373,24 @@ public final class TermsBoundaryTest extends Sentences {
         for (int[] m : orders) {
             for (int[] k : orders) {
                 ShareSolve x = longestWay(m, k);
-                due("out by eight machines and kinds", 0, x.solve());
-                due("all comes to the port", 9, x.out(0, k[2], 0));
-                x.joinOut(m[1], 1, m[1]);
+                due("out by all nine machines and kinds", 0, x.solve());
+                due("all comes to the port", 9, x.out(0, k[0], 0));
+                due("three times through the first machine", 27, x.load(m[0], 0));
+                due("and through the last", 27, x.load(m[2], 0));
+                x.joinOut(m[2], 1, m[2]);
                 due("its end is closed", 1, x.solve());
-                x.joinOut(m[1], 1, -1);
+                x.joinOut(m[2], 1, -1);
                 due("its end is gone", 0, x.solve());
-                x.crush(m[2], k[1], k[2], 0, 1);
-                due("a link is missing", 1, x.solve());
+                x.crush(m[1], k[2], k[0], 0, 1);
+                due("a link is missing", 1 + Math.min(m[0], m[1]), x.solve());
             }
         }
     }
 
-    /** A round of three machines; in the last one a kind becomes the next, only the last leaves. */
+    /**
+     * Each machine turns kind 0 into 1, 1 into 2, 2 into 0, keeps 1 and 2, and passes on 0: so
+     * there is one way alone, and the one that looks for it in the wrong order finds it at last.
+     */
     private static ShareSolve longestWay(int[] m, int[] k) {
         ShareSolve x = new ShareSolve(3);
         for (int n = 0; n < 3; n++) {
@@ -393,14 +398,13 @@ public final class TermsBoundaryTest extends Sentences {
         }
         x.port();
         for (int n = 0; n < 3; n++) {
-            x.joinOut(m[n], 0, m[(n + 1) % 3]);
+            x.joinOut(m[n], 0, m[n]);
+            x.joinOut(m[n], 1, n == 2 ? -2 : m[n + 1]);
             for (int kind = 0; kind < 3; kind++) {
-                x.share(m[n], k[kind], 0, n == 1 && kind == 2 ? 0 : 1, 1);
+                x.crush(m[n], k[kind], k[(kind + 1) % 3], 1, 1);
+                x.share(m[n], k[kind], 0, kind == 0 ? 0 : 1, 1);
             }
         }
-        x.joinOut(m[1], 1, -2);
-        x.crush(m[2], k[0], k[1], 1, 1);
-        x.crush(m[2], k[1], k[2], 1, 1);
         x.feed(m[0], k[0], 9);
         return x;
     }
